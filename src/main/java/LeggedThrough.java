@@ -536,41 +536,37 @@ public final class LeggedThrough {
         return least;
     }
 
+    /** How much later THE CLOCK is by SOONEST, ahead of the nine figures of its row; 0; NONE. */
     private long soonestLegs() {
         int left = plan.allBoats() & ~state.through;
-        if (left == 0) {
-            return 0;
-        }
-        if (plan.leggers < 2) {
+        if (left != 0 && plan.leggers < 2) {
             return NONE;
         }
-        int loads = 0;
-        for (int boat = 0; boat < plan.boats; boat++) {
-            loads += isIn(left, boat) ? plan.loadOf(boat) : 0;
-        }
-        return leastLegs(left, state.tired, loads, 0, Long.MAX_VALUE);
+        return leastLegs(0, state.tired, 0, 0, Long.MAX_VALUE);
     }
 
     /**
-     * The lesser one of least and of the best way on, when the legs so far have taken spent and are told by row.
-     * No order of the BOATS is sooner than another one, since a LOAD is the same behind whatever legs:
-     * so the first row has the BOATS as they are numbered. Each call has a BOAT less left: three deep at most.
+     * The lesser one of least and of the best way on from a BOAT, when the legs so far have taken spent and are
+     * told by row. No order of the BOATS is sooner than another one, since a LOAD is the same behind whatever legs:
+     * so the first row has the BOATS as they are numbered. It goes as deep as there are BOATS.
      */
-    private long leastLegs(int left, int tired, int spent, int row, long least) {
+    private long leastLegs(int boat, int tired, int spent, int row, long least) {
         long soFar = (long) spent * BELOW_ROW;
-        if (left == 0) {
-            return Math.min(least, soFar + row);
-        }
         if (soFar >= least) {
             return least;
         }
-        int boat = Integer.numberOfTrailingZeros(left);
+        if (boat >= plan.boats) {
+            return Math.min(least, soFar + row);
+        }
+        if (isIn(state.through, boat)) {
+            return leastLegs(boat + 1, tired, spent, row, least);
+        }
         long found = least;
         for (int one = 0; one < plan.leggers; one++) {
             for (int other = one + 1; other < plan.leggers; other++) {
-                int minutes = pairMinutes(one, other, 0, 0, tired);
+                int then = spent + pairMinutes(one, other, 0, 0, tired) + plan.loadOf(boat);
                 int longer = row * LEG_FIGURES + 100 * boat + 10 * one + other;
-                found = leastLegs(left & (left - 1), tireBoth(tired, one, other), spent + minutes, longer, found);
+                found = leastLegs(boat + 1, tireBoth(tired, one, other), then, longer, found);
             }
         }
         return found;
@@ -633,7 +629,7 @@ public final class LeggedThrough {
         return slips * slipped + (TENTHS - slips) * walked;
     }
 
-    /** A day's legging: every BOAT once more, as is SOONEST. */
+    /** A day's legging. That all are THROUGH then is not told: it would only be taken back by the next one. */
     private void legAll() {
         state.through = 0;
         long least = soonestLegs();
@@ -645,7 +641,6 @@ public final class LeggedThrough {
             state.tired = tireBoth(state.tired, row / 10 % 10, row % 10);
             row /= LEG_FIGURES;
         }
-        state.through = plan.allBoats();
         state.clock += (int) (least / BELOW_ROW);
     }
 
@@ -818,7 +813,6 @@ public final class LeggedThrough {
         private int many;
 
         void forgetAll() {
-            first = 0;
             many = 0;
         }
 

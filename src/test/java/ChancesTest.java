@@ -12,6 +12,7 @@ public final class ChancesTest {
         promise26Seed();
         promise27OneDay();
         promise27WettedThenLegged();
+        promise27TiredByTheRow();
         promise27ManyDays();
         promise27Refused();
         due.end();
@@ -187,6 +188,29 @@ public final class ChancesTest {
                 due.same("WETTED too late", behind.days(2), behind.soonest(false));
             }
         }
+    }
+
+    /** Who is TIRED by a day's legging, is so the next day, just as the row told it. */
+    private static void promise27TiredByTheRow() {
+        // 1 and 2 by 0 and 1, who then are twice TIRED: 3 and 3 the next day
+        LeggedThrough two = Due.made("L1G00000G00000G00000B0B0");
+        two.seed(seedOf(16, 17));
+        due.same("two BOATS, three LEGGERS, two days", two.days(2), 1 + 2 + 3 + 3);
+        // 1, 2 by 0 and 1, 1 by 2 and 3; then 3 by 0 and 1, 2 and 3 by 2 and 3; then all are worn
+        String text = "L1G00000G00000G00000G00000B0B0B0";
+        int[] all = {0, 4, 4 + 8, 4 + 8 + 12};
+        for (int m = 1; m <= 3; m++) {
+            LeggedThrough three = Due.made(text);
+            three.leg(2, 0, 1);
+            three.rest(0);
+            three.rest(1);
+            three.seed(seedOf(19, 18, 16));
+            due.same("three BOATS, four LEGGERS, days: " + m, three.days(m), all[m]);
+        }
+        // the fast ones are 1 and 2: twice they leg, by row 12 and 112, and are twice TIRED
+        LeggedThrough fast = Due.made("L1G03333G00000G00000B0B0");
+        fast.seed(seedOf(16, 16));
+        due.same("the fast ones are TIRED", fast.days(2), 1 + 2 + 3 + 4);
     }
 
     /** Two LEGGERS over one STEP that is FLAT or WET: told by hand from day to day. */

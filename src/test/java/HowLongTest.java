@@ -6,6 +6,7 @@ public final class HowLongTest {
 
     public static void main(String[] args) {
         promise14Alone();
+        promise14HalfWay();
         promise14Refused();
         promise15Time();
         promise15Refused();
@@ -65,6 +66,21 @@ public final class HowLongTest {
         x.wet(0, 1);
         x.rest(0);
         due.same("RESTED", x.alone(0, 1), 2);
+    }
+
+    /** Beside one who is on STAIRS in that STEP alone, an old one's song costs nothing: so it tells where he sings. */
+    private static void promise14HalfWay() {
+        int[] halfWay = {0, 0, 1, 1, 2, 2, 3};
+        for (int steps = 1; steps <= 6; steps++) {
+            for (int place = 0; place < 4; place++) {
+                char[] life = "0000".toCharArray();
+                life[place] = '3';
+                int visits = (steps + 3 - place) / 4;
+                int sung = place == halfWay[steps] ? 0 : 2;
+                LeggedThrough x = Due.made("L" + steps + "G30000G0" + new String(life) + "B0");
+                due.same("an old one in " + steps + " STEPS beside STAIRS at " + place, x.time(0, 0, 1, 0, 0), steps + 3 * visits + sung);
+            }
+        }
     }
 
     private static void promise14Refused() {

@@ -196,9 +196,11 @@ public final class TunnelTest {
         x.tunnel();
         due.same("nobody then", x.legger(0, 0), UNKNOWN);
         due.same("no BOAT then", x.load(0), UNKNOWN);
-        Due.tell(x, "L3G32222B1");
+        Due.tell(x, "L3G13333B6");
         x.tunnel();
-        due.same("nothing is left of another KIND", x.legger(0, 4), 3);
+        Due.tell(x, "L3G22222B1");
+        x.tunnel();
+        due.same("nothing is left of another KIND", x.legger(0, 4), 2);
         due.same("nothing is left of another GROUND", x.legger(0, 3), 2);
         due.same("nothing is left of another LOAD", x.load(0), 1);
     }
