@@ -293,6 +293,11 @@ public final class HowLongTest {
         share(three, 2, 0, 401, 6);
         LeggedThrough four = Due.made("L1G00000G00000G00000G00000B3");
         share(four, 2, 0, 49, 1);
+        // 0 and 1 take 4, 0 and 2 take 6, 1 and 2 take 5
+        LeggedThrough unlike = Due.made("L2G00000G00100G01100B0");
+        share(unlike, 0, 0, 196, 3);
+        share(unlike, 1, 0, 395, 6);
+        share(unlike, 2, 0, 389, 6);
         two.leg(0, 0, 1);
         share(two, 0, 0, 99, 1);
         share(two, 1, 1, 189, 2);
