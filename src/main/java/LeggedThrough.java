@@ -787,7 +787,7 @@ public final class LeggedThrough {
 
         void storeIn(int[] row, int index) {
             int at = index * FIGURES;
-            if (index >= 0 && at >= 0 && at + FIGURES <= row.length) {
+            if (at >= 0 && at <= row.length - FIGURES) {
                 row[at] = grounds;
                 row[at + 1] = tired;
                 row[at + 2] = through;
@@ -797,7 +797,7 @@ public final class LeggedThrough {
 
         void fetchFrom(int[] row, int index) {
             int at = index * FIGURES;
-            if (index >= 0 && at >= 0 && at + FIGURES <= row.length) {
+            if (at >= 0 && at <= row.length - FIGURES) {
                 grounds = row[at];
                 tired = row[at + 1];
                 through = row[at + 2];
