@@ -37,9 +37,13 @@ final class Due {
 
     /** The call has its answer and leaves all that the object holds as it is. */
     void still(String what, Setup setup, Call call, long want) {
-        LeggedThrough x = setup.make();
-        same(what, call.on(x), want);
-        same(what + ": all that is held", everything(x), everything(setup.make()));
+        Setup called = () -> {
+            LeggedThrough x = setup.make();
+            call.on(x);
+            return x;
+        };
+        same(what, call.on(setup.make()), want);
+        same(what + ": all that is held", everything(called), everything(setup));
     }
 
     /** Ends the program: with 1, if an answer was not as due. */
@@ -71,37 +75,35 @@ final class Due {
         return x;
     }
 
-    /** All that an object holds, brought to light call by call; the object is of no use behind it. */
-    static List<Long> everything(LeggedThrough x) {
+    /**
+     * All that an object holds, brought to light call by call; each part by an object of its own, since what
+     * a call answers behind the 512th one is free.
+     */
+    static List<Long> everything(Setup setup) {
         List<Long> all = new ArrayList<>();
+        addSeenAndActs(setup.make(), all);
+        addSlots(setup.make(), all);
+        addText(setup.make(), all);
+        return all;
+    }
+
+    private static void addSeenAndActs(LeggedThrough x, List<Long> all) {
         for (int place = -1; place < 4; place++) {
             all.add((long) x.lives(place));
         }
         all.add(x.seed(0));
         addState(x, all);
-        for (int i = 0; i < 15; i++) {
+        for (int i = 0; i < 15 && x.about(5) > 0; i++) {
             all.add((long) x.undo());
-            addState(x, all);
+            addChanging(x, all);
         }
+        all.add((long) x.undo());
+    }
+
+    private static void addSlots(LeggedThrough x, List<Long> all) {
         for (int slot = 0; slot < 2; slot++) {
             all.add((long) x.again(slot));
             addState(x, all);
-        }
-        addText(x, all);
-        return all;
-    }
-
-    private static void addState(LeggedThrough x, List<Long> all) {
-        for (int what = 0; what < 8; what++) {
-            all.add((long) x.about(what));
-        }
-        for (int legger = 0; legger < x.about(1); legger++) {
-            for (int what = 0; what < 6; what++) {
-                all.add((long) x.legger(legger, what));
-            }
-        }
-        for (int boat = 0; boat < x.about(2); boat++) {
-            all.add((long) x.load(boat));
         }
     }
 
@@ -113,5 +115,33 @@ final class Due {
         all.add((long) x.fault());
         all.add((long) x.tunnel());
         addState(x, all);
+    }
+
+    private static void addState(LeggedThrough x, List<Long> all) {
+        for (int what = 0; what < 8; what++) {
+            all.add((long) x.about(what));
+        }
+        int boats = x.about(2);
+        for (int boat = 0; boat < boats; boat++) {
+            all.add((long) x.load(boat));
+        }
+        int leggers = x.about(1);
+        for (int legger = 0; legger < leggers; legger++) {
+            all.add((long) x.legger(legger, 4));
+        }
+        addChanging(x, all);
+    }
+
+    /** What ACTS can change. */
+    private static void addChanging(LeggedThrough x, List<Long> all) {
+        all.add((long) x.about(3));
+        all.add((long) x.about(4));
+        int leggers = x.about(1);
+        for (int legger = 0; legger < leggers; legger++) {
+            for (int place = 0; place < 4; place++) {
+                all.add((long) x.legger(legger, place));
+            }
+            all.add((long) x.legger(legger, 5));
+        }
     }
 }
