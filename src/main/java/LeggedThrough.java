@@ -13,6 +13,8 @@ public final class LeggedThrough {
     private static final int LONGEST_CHANCE = 60, TENTHS = 10, MOST_DAYS = 30, SORTS_OF_DAYS = 20;
     private static final int MOST_JUDGED = 3, LEG_FIGURES = 1000, ALL_LIVES = 256;
     private static final int BELOW_PAIR = 100, BELOW_ROW = 1000000000;
+    /** More MINUTES than three legs can take. */
+    private static final int ENDLESS = 1000;
 
     private final Text text = new Text();
     private final Plan plan = new Plan();
@@ -526,7 +528,7 @@ public final class LeggedThrough {
     }
 
     private int leastBegin(int one, int other) {
-        int least = Integer.MAX_VALUE;
+        int least = ENDLESS * BELOW_PAIR;
         for (int p = 0; p < PLACES; p++) {
             for (int q = 0; q < PLACES; q++) {
                 int minutes = pairMinutes(one, other, p, q, state.tired);
@@ -542,7 +544,7 @@ public final class LeggedThrough {
         if (left != 0 && plan.leggers < 2) {
             return NONE;
         }
-        return leastLegs(0, state.tired, 0, 0, Long.MAX_VALUE);
+        return leastLegs(0, state.tired, 0, 0, (long) ENDLESS * BELOW_ROW);
     }
 
     /**

@@ -103,7 +103,7 @@ public final class FaceTest {
     private static void theSource(String source) {
         String code = source.replaceAll("(?s)/\\*.*?\\*/", " ").replaceAll("//[^\n]*", " ");
         String words = "throw|try|catch|synchronized|assert|import|package|instanceof|float|double|native|volatile|"
-                + "transient|System|Object|Thread|var|yield|protected|hashCode|toString|Exact";
+                + "transient|System|Object|Thread|var|yield|protected|hashCode|toString|Exact|MAX_VALUE|MIN_VALUE";
         due.same("words that are ruled out", first("\\b(" + words + ")\\b|->|::", code), "none");
         due.same("a line too long", first("[^\n]{121,}", source), "none");
         due.same("a sign beyond ASCII", first("[^\\x00-\\x7f]", source), "none");
