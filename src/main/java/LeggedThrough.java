@@ -307,7 +307,11 @@ public final class LeggedThrough {
         for (int step = 0; step < plan.steps; step++) {
             all *= TENTHS;
         }
-        return fraction(waysInTime(legger, 0, 0, t, x), all, upper);
+        int inTime = 0;
+        for (int slips = 0; slips < 1 << plan.steps; slips++) {
+            inTime += waysInTime(legger, slips, t, x);
+        }
+        return fraction(inTime, all, upper);
     }
 
     public long seed(long v) {
@@ -552,26 +556,37 @@ public final class LeggedThrough {
      * told by row. No order of the BOATS is sooner than another one, since a LOAD is the same behind whatever legs:
      * so the first row has the BOATS as they are numbered. It goes as deep as there are BOATS.
      */
-    private long leastLegs(int boat, int tired, int spent, int row, long least) {
+    private long leastLegs(int from, int tired, int spent, int row, long least) {
         long soFar = (long) spent * BELOW_ROW;
         if (soFar >= least) {
             return least;
         }
+        int boat = nextToLeg(from);
         if (boat >= plan.boats) {
             return Math.min(least, soFar + row);
-        }
-        if (isIn(state.through, boat)) {
-            return leastLegs(boat + 1, tired, spent, row, least);
         }
         long found = least;
         for (int one = 0; one < plan.leggers; one++) {
             for (int other = one + 1; other < plan.leggers; other++) {
-                int then = spent + pairMinutes(one, other, 0, 0, tired) + plan.loadOf(boat);
-                int longer = row * LEG_FIGURES + 100 * boat + 10 * one + other;
-                found = leastLegs(boat + 1, tireBoth(tired, one, other), then, longer, found);
+                found = leastBehind(boat, one, other, tired, spent, row, found);
             }
         }
         return found;
+    }
+
+    /** The same behind the leg of that BOAT by a PAIR. */
+    private long leastBehind(int boat, int one, int other, int tired, int spent, int row, long least) {
+        int then = spent + pairMinutes(one, other, 0, 0, tired) + plan.loadOf(boat);
+        int longer = row * LEG_FIGURES + 100 * boat + 10 * one + other;
+        return leastLegs(boat + 1, tireBoth(tired, one, other), then, longer, least);
+    }
+
+    private int nextToLeg(int from) {
+        int boat = from;
+        while (boat < plan.boats && isIn(state.through, boat)) {
+            boat++;
+        }
+        return boat;
     }
 
     // ---- behind the face: shares, seen, rests, chances
@@ -615,20 +630,20 @@ public final class LeggedThrough {
         return true;
     }
 
-    /** Of 10 ways at each STEP from this one on, those that take no more than left; a call for each STEP deep. */
-    private int waysInTime(int legger, int place, int step, int left, int x) {
-        if (left < 0) {
-            return 0;
+    /** Of 10 ways at each STEP those that slip in just these STEPS (bits), if they take t or less. */
+    private int waysInTime(int legger, int slips, int t, int x) {
+        int ways = 1;
+        int minutes = 0;
+        int at = 0;
+        for (int step = 0; step < plan.steps; step++) {
+            int ground = state.groundAt(legger, at);
+            int tenths = ground == WET ? TENTHS : x;
+            boolean slipped = isIn(slips, step);
+            ways *= slipped ? tenths : TENTHS - tenths;
+            minutes += stepMinutes(legger, ground, step, state.tired);
+            at = placeBehind(at, slipped ? WET : FLAT);
         }
-        if (step >= plan.steps) {
-            return 1;
-        }
-        int ground = state.groundAt(legger, place);
-        int stillLeft = left - stepMinutes(legger, ground, step, state.tired);
-        int slips = ground == WET ? TENTHS : x;
-        int slipped = waysInTime(legger, (place + 2) % PLACES, step + 1, stillLeft, x);
-        int walked = waysInTime(legger, (place + 1) % PLACES, step + 1, stillLeft, x);
-        return slips * slipped + (TENTHS - slips) * walked;
+        return minutes <= t ? ways : 0;
     }
 
     /** A day's legging. That all are THROUGH then is not told: it would only be taken back by the next one. */

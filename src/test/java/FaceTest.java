@@ -122,12 +122,15 @@ public final class FaceTest {
     }
 
     private static void theMethodsAreShort(String code) {
-        Matcher matcher = Pattern.compile("(?m)^( +)(public |private )?[\\w. \\[\\]]+\\([^;{]*\\) \\{$").matcher(code);
+        Matcher matcher = Pattern.compile("(?m)^( +)(public |private )?[\\w. \\[\\]]+\\w\\([^;{]*\\) \\{$").matcher(code);
         int many = 0;
         while (matcher.find()) {
             int end = code.indexOf("\n" + matcher.group(1) + "}", matcher.end());
             long lines = code.substring(matcher.start(), end).chars().filter(c -> c == '\n').count();
             due.same("sixty lines at most: " + matcher.group().trim(), lines <= 60, true);
+            String name = matcher.group().replaceAll("(?s)\\(.*", "").replaceAll(".* ", "");
+            boolean callsItself = Pattern.compile("\\b" + name + "\\(").matcher(code.substring(matcher.end(), end)).find();
+            due.same("only a static one calls itself: " + name, callsItself && !matcher.group().contains("static "), false);
             many++;
         }
         due.same("the methods were found", many > 60, true);
